@@ -39,8 +39,8 @@ public final class ToadBank {
         town = new Town();
         kept = new Town();
         spare = new Town();
-        ledgerReader = new LedgerReader(tape);
-        lawReader = new LawReader(tape);
+        ledgerReader = new LedgerReader();
+        lawReader = new LawReader();
         asker = new Asker();
         monthRun = new Months();
         clearing = new Clearing();
@@ -94,7 +94,7 @@ public final class ToadBank {
         if (n < 1 || n > MOST_LAW_BYTES || n > tape.size) {
             return NONE;
         }
-        int answer = lawReader.read(n);
+        int answer = lawReader.read(tape, n);
         tape.clear();
         if (answer >= 0) {
             lawInForce.copyFrom(lawReader.draft);
@@ -107,7 +107,7 @@ public final class ToadBank {
             return NONE;
         }
         spare.copyFrom(town);
-        int answer = ledgerReader.read(n, spare);
+        int answer = ledgerReader.read(tape, n, spare);
         tape.clear();
         if (answer >= 0) {
             town.copyFrom(spare);
@@ -897,19 +897,14 @@ public final class ToadBank {
         private static final int MOST_LINES = 20;
         private static final int MOST_DIGITS = 3;
 
-        private final Tape text;
         private int other = 0;
 
-        LedgerReader(Tape tape) {
-            text = tape;
-        }
-
         /** How many lines, or the fault. */
-        int read(int n, Town draft) {
+        int read(Tape text, int n, Town draft) {
             text.startText(n);
             // The line beyond the last one is always refused.
             for (int lines = 0; lines <= MOST_LINES; lines++) {
-                if (!readLine(draft, lines)) {
+                if (!readLine(text, draft, lines)) {
                     return text.found;
                 }
                 if (text.isRead()) {
@@ -922,7 +917,7 @@ public final class ToadBank {
             return text.found;
         }
 
-        private boolean readLine(Town draft, int linesAhead) {
+        private boolean readLine(Tape text, Town draft, int linesAhead) {
             int start = text.place;
             int b = text.sign() - 'a';
             if (!isBank(b)) {
@@ -941,7 +936,7 @@ public final class ToadBank {
                 return text.fail(1);
             }
             text.step();
-            if (ofTwo && !readOther(draft, b)) {
+            if (ofTwo && !readOther(text, draft, b)) {
                 return false;
             }
             if (!text.readNumber(MOST_DIGITS)) {
@@ -950,7 +945,7 @@ public final class ToadBank {
             return carryOut(draft, b, kind, text.number) || text.failAt(9, start);
         }
 
-        private boolean readOther(Town draft, int b) {
+        private boolean readOther(Tape text, Town draft, int b) {
             other = text.sign() - 'a';
             if (!isBank(other)) {
                 return text.fail(1);
@@ -1063,20 +1058,15 @@ public final class ToadBank {
         private static final int MOST_OPEN = 6;
         private static final int MOST_DIGITS = 5;
 
-        private final Tape text;
         private final Law draft = new Law();
 
-        LawReader(Tape tape) {
-            text = tape;
-        }
-
         /** How many rules, or the fault. */
-        int read(int n) {
+        int read(Tape text, int n) {
             text.startText(n);
             draft.clear();
             // The rule beyond the last one is always refused.
             for (int rules = 0; rules <= Law.MOST_RULES; rules++) {
-                if (!readRule()) {
+                if (!readRule(text)) {
                     return text.found;
                 }
                 if (text.isRead()) {
@@ -1089,7 +1079,7 @@ public final class ToadBank {
             return text.found;
         }
 
-        private boolean readRule() {
+        private boolean readRule(Tape text) {
             int letter = text.sign();
             if (letter != 'f' && letter != 'w' && letter != 'q' && letter != 'i' && letter != 'x') {
                 return text.fail(1);
@@ -1099,24 +1089,24 @@ public final class ToadBank {
             }
             text.step();
             draft.startRule(letter);
-            if (letter != 'x' && !readSum(0)) {
+            if (letter != 'x' && !readSum(text, 0)) {
                 return false;
             }
             draft.startCase();
-            if (!text.expect('(') || !readCase(1) || !text.expect(')')) {
+            if (!text.expect('(') || !readCase(text, 1) || !text.expect(')')) {
                 return false;
             }
             draft.endRule();
             return true;
         }
 
-        private boolean readCase(int open) {
-            if (!readPart(open)) {
+        private boolean readCase(Tape text, int open) {
+            if (!readPart(text, open)) {
                 return false;
             }
-            while (text.sign() == '|') {
-                int link = startLink('|');
-                if (!readPart(open)) {
+            for (int i = 0; i < MOST_LAW_BYTES && text.sign() == '|'; i++) {
+                int link = startLink(text, '|');
+                if (!readPart(text, open)) {
                     return false;
                 }
                 draft.set(link, draft.size);
@@ -1124,13 +1114,13 @@ public final class ToadBank {
             return true;
         }
 
-        private boolean readPart(int open) {
-            if (!readTest(open)) {
+        private boolean readPart(Tape text, int open) {
+            if (!readTest(text, open)) {
                 return false;
             }
-            while (text.sign() == '&') {
-                int link = startLink('&');
-                if (!readTest(open)) {
+            for (int i = 0; i < MOST_LAW_BYTES && text.sign() == '&'; i++) {
+                int link = startLink(text, '&');
+                if (!readTest(text, open)) {
                     return false;
                 }
                 draft.set(link, draft.size);
@@ -1139,19 +1129,19 @@ public final class ToadBank {
         }
 
         /** Where the place to go on at is to be written, as soon as it is known. */
-        private int startLink(int sign) {
+        private int startLink(Tape text, int sign) {
             text.step();
             draft.add(sign);
             draft.add(0);
             return draft.size - 1;
         }
 
-        private boolean readTest(int open) {
+        private boolean readTest(Tape text, int open) {
             int first = text.sign();
             if (first == '!' || first == '(') {
-                return readOpened(first, open);
+                return readOpened(text, first, open);
             }
-            if (!readSum(open)) {
+            if (!readSum(text, open)) {
                 return false;
             }
             int sign = text.sign();
@@ -1159,36 +1149,39 @@ public final class ToadBank {
                 return text.fail(1);
             }
             text.step();
-            if (!readSum(open)) {
+            if (!readSum(text, open)) {
                 return false;
             }
             draft.add(sign);
             return true;
         }
 
-        private boolean readOpened(int first, int open) {
+        private boolean readOpened(Tape text, int first, int open) {
             if (open >= MOST_OPEN) {
                 return text.fail(5);
             }
             text.step();
             if (first == '(') {
-                return readCase(open + 1) && text.expect(')');
+                return readCase(text, open + 1) && text.expect(')');
             }
-            if (!readTest(open + 1)) {
+            if (!readTest(text, open + 1)) {
                 return false;
             }
             draft.add('!');
             return true;
         }
 
-        private boolean readSum(int open) {
-            if (!readTerm(open)) {
+        private boolean readSum(Tape text, int open) {
+            if (!readTerm(text, open)) {
                 return false;
             }
-            while (text.sign() == '+' || text.sign() == '-') {
+            for (int i = 0; i < MOST_LAW_BYTES; i++) {
                 int sign = text.sign();
+                if (sign != '+' && sign != '-') {
+                    return true;
+                }
                 text.step();
-                if (!readTerm(open)) {
+                if (!readTerm(text, open)) {
                     return false;
                 }
                 draft.add(sign);
@@ -1196,14 +1189,17 @@ public final class ToadBank {
             return true;
         }
 
-        private boolean readTerm(int open) {
-            if (!readFactor(open)) {
+        private boolean readTerm(Tape text, int open) {
+            if (!readFactor(text, open)) {
                 return false;
             }
-            while (text.sign() == '*' || text.sign() == '/' || text.sign() == '%') {
+            for (int i = 0; i < MOST_LAW_BYTES; i++) {
                 int sign = text.sign();
+                if (sign != '*' && sign != '/' && sign != '%') {
+                    return true;
+                }
                 text.step();
-                if (!readFactor(open)) {
+                if (!readFactor(text, open)) {
                     return false;
                 }
                 draft.add(sign);
@@ -1211,14 +1207,14 @@ public final class ToadBank {
             return true;
         }
 
-        private boolean readFactor(int open) {
+        private boolean readFactor(Tape text, int open) {
             int sign = text.sign();
             if (sign == '[') {
                 if (open >= MOST_OPEN) {
                     return text.fail(5);
                 }
                 text.step();
-                return readSum(open + 1) && text.expect(']');
+                return readSum(text, open + 1) && text.expect(']');
             }
             if (isAskedLetter(sign)) {
                 text.step();
