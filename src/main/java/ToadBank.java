@@ -260,13 +260,13 @@ public final class ToadBank {
             return NONE;
         }
         // Nobody falls just if each one, paid by all in full, can pay all: if none is worth less than 0.
+        // Nobody can be worth less than seven debts below 0, so no more than the 9999 is ever asked.
         for (int other = 0; other < BANKS; other++) {
             if (other != b && town.worth(other) < 0) {
                 return -2;
             }
         }
-        int least = Math.max(0, -town.worth(b));
-        return least <= MOST_CASH ? least : -2;
+        return Math.max(0, -town.worth(b));
     }
 
     public int setOff() {

@@ -247,6 +247,15 @@ final class BanksTest {
 
     /** Promise 24. */
     private static void mergeAtTheBounds() {
+        ToadBank last = Due.town(1, -1, -1, -1, -1, 1, -1, 1);
+        last.owe(7, 0, 3);
+        last.owe(5, 0, 4);
+        last.owe(0, 5, 5);
+        last.hold(5, 0, 6);
+        DUE.is("merge", last.merge(7, 5), true);
+        DUE.is("owes 0", last.owes(7, 0), 7);
+        DUE.is("0 owes", last.owes(0, 7), 5);
+        DUE.is("has of 0", last.holds(7, 0), 6);
         ToadBank x = Due.town(9000, 999, 1000, 0);
         x.owe(0, 3, 500);
         x.owe(1, 3, 499);

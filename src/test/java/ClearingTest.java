@@ -140,6 +140,18 @@ final class ClearingTest {
         // Without 5's cash 7 falls as well; 1 gets enough of 7 to stand without its own.
         DUE.is("5, 6 and 7", x.keystone(0), 5);
         DUE.is("three", x.keystone(1), 3);
+        ToadBank first = Due.town(4, 4, 9);
+        DUE.is("none falls: the lowest", first.keystone(0), 0);
+        first.owe(0, 2, 4);
+        first.owe(1, 2, 4);
+        DUE.is("like ones: the lowest", first.keystone(0), 0);
+        DUE.is("one", first.keystone(1), 1);
+        first.owe(1, 0, 4);
+        first.bank(1, 8);
+        DUE.is("1 falls, 0 does not", first.keystone(0), 1);
+        first.owe(0, 2, 8);
+        DUE.is("both", first.keystone(0), 1);
+        DUE.is("two", first.keystone(1), 2);
         ToadBank shut = Due.town(0);
         Due.law(shut, "x(b=0)");
         shut.months(1);

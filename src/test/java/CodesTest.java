@@ -180,6 +180,10 @@ final class CodesTest {
         Due.code(x, 2, "..-");
         DUE.is("again", x.atOnce(), 1);
         // One that ends with another one does not matter.
+        ToadBank first = new ToadBank();
+        Due.code(first, 0, ".");
+        Due.code(first, 7, "..");
+        DUE.is("0 begins 7", first.atOnce(), 0);
         ToadBank y = new ToadBank();
         Due.code(y, 0, "-.....");
         Due.code(y, 1, ".....");

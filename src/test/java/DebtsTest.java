@@ -121,6 +121,8 @@ final class DebtsTest {
     /** Promise 22. */
     private static void road() {
         ToadBank x = Due.town(0, 0, 0, 0, 0, -1);
+        x.owe(0, 1, 1);
+        DUE.is("1 wide", x.road(0, 1, 0), 1);
         x.owe(0, 1, 5);
         DUE.is("wide", x.road(0, 1, 0), 5);
         DUE.is("one", x.road(0, 1, 1), 1);

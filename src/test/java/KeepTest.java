@@ -62,6 +62,15 @@ final class KeepTest {
     }
 
     private static void whatIsNotKept() {
+        ToadBank last = Due.town(1, 1, 1, 1, 1, 1, 1, 1);
+        last.owe(7, 6, 5);
+        last.hold(7, 6, 60);
+        last.keep();
+        last.owe(7, 6, 4);
+        last.hold(7, 6, 50);
+        last.bank(7, 2);
+        last.undo();
+        DUE.is("the last one, too", last.owes(7, 6) * 1000 + last.holds(7, 6) * 10 + last.bankIs(7, 0), 5601);
         ToadBank x = Due.town(0);
         Due.law(x, "f1(b=0)");
         Due.code(x, 0, ".");

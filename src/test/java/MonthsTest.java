@@ -5,6 +5,7 @@ final class MonthsTest {
     public static void main(String[] args) {
         sums();
         cases();
+        longCases();
         refusedByZero();
         letters();
         firstRule();
@@ -90,6 +91,28 @@ final class MonthsTest {
         holds("c+1=o+g", true);
         holds("[c+1]*2=[o+g]*2", true);
         holds("0-1<0", true);
+    }
+
+    private static String many(int n, String part, String between) {
+        StringBuilder text = new StringBuilder(part);
+        for (int i = 1; i < n; i++) {
+            text.append(between).append(part);
+        }
+        return text.toString();
+    }
+
+    /** As much as a text can hold, in breadth and in depth. */
+    private static void longCases() {
+        holds(many(57, "c=8", "|") + "|c=7", true);
+        holds(many(57, "c=7", "&") + "&c=7", true);
+        holds(many(57, "c=7", "&") + "&c=8", false);
+        sum(many(110, "1", "+"), 110);
+        sum(many(110, "1", "*"), 1);
+        sum(many(110, "2", "*") + "+6", 6);
+        holds("1+2*[1+2*[1+2*[1+2*[1+2*[1]]]]]=63", true);
+        sum("1+2*[1+2*[1+2*[1+2*[1+2*[1+2*[1]]]]]]", 127);
+        holds("!(c=8|!(!c=7&o=5))", false);
+        holds("!(c=8|!(!c=8&o=5))", true);
     }
 
     private static void refusedByZero() {
