@@ -204,6 +204,18 @@ final class AskEdgesTest {
         DUE.is("no cash at all", all.leastBlow(0, 0), -2);
         all.owe(0, 1, 2);
         DUE.is("falls already", all.leastBlow(1, 0), 0);
+        // Those that fall without any blow are told with each one.
+        ToadBank bad = Due.town(10, 0, 0, 0);
+        bad.owe(1, 2, 1);
+        bad.owe(0, 3, 5);
+        int[] hurt = {0, 5, 6, 9999};
+        int[] fall = {2, 2, 3, 3};
+        for (int i = 0; i < hurt.length; i++) {
+            DUE.is("1 falls anyway, blow " + hurt[i], bad.blow(0, hurt[i]), fall[i]);
+            DUE.is("1 falls anyway, blow to 3", bad.blow(3, hurt[i]), 2);
+        }
+        DUE.is("0 does not fall already", bad.leastBlow(0, 0), 6);
+        DUE.is("1 does", bad.leastBlow(0, 1), 0);
         for (int b = -1; b <= 8; b++) {
             boolean isOpen = b == 0 || b == 1;
             DUE.is("leastBlow " + b, all.leastBlow(b, 0) == -1, !isOpen);

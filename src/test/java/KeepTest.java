@@ -7,6 +7,8 @@ final class KeepTest {
         whatIsNotKept();
         check();
         count();
+        fiveHundredAndTwelveCalls();
+        twoTowns();
         DUE.end();
     }
 
@@ -143,5 +145,68 @@ final class KeepTest {
             drawn = (drawn * 25173 + 13849) % 65536;
         }
         DUE.is("3 draws, then 2", x.count(7), drawn);
+    }
+
+    /** An object is used for 512 calls: the last one is answered as the first one is. */
+    private static void fiveHundredAndTwelveCalls() {
+        ToadBank x = new ToadBank();
+        DUE.is("call 1", x.bank(0, 0), true);
+        int calls = 1;
+        for (int lines = 1; calls < 511; lines++) {
+            DUE.is("a feed", x.feed(0x612b3100, 0, 0, 0, 0), 20);
+            DUE.is("a ledger", x.ledger(3), 1);
+            calls += 2;
+            DUE.is("call " + calls, calls, 2 * lines + 1);
+        }
+        DUE.is("call 512", x.bankIs(0, 0), 255);
+        // A month is dearest with all BANKS, all DEBTS and much to ask.
+        ToadBank y = Due.town(9999, 9999, 9999, 9999, 9999, 9999, 9999, 9999);
+        for (int b = 0; b < 8; b++) {
+            for (int to = 0; to < 8; to++) {
+                y.owe(b, to, 1);
+            }
+        }
+        String rule = "i1(d<0|e<0|b<0|c<0|o<0|g<0|m<0);";
+        Due.law(y, rule + rule + rule + rule + rule + rule + "f1(b=b);w1(b=b);i2(b=b)");
+        for (int call = 0; call < 400; call++) {
+            DUE.is("sixty months", y.tried(60, 3), 56 * 121);
+        }
+        DUE.is("nothing is changed", y.count(8), 56);
+    }
+
+    /** All memory is the town's own. */
+    private static void twoTowns() {
+        ToadBank x = Due.town(10, 20, 30);
+        ToadBank y = new ToadBank();
+        x.owe(0, 1, 5);
+        x.hold(0, 1, 60);
+        Due.law(x, "x(b=2)");
+        Due.code(x, 3, "-.-");
+        x.seed(77);
+        x.keep();
+        x.months(1);
+        x.feed(1, 2, 3, 4, 5);
+        for (int what = 0; what <= 17; what++) {
+            DUE.is("the other one, count " + what, y.count(what), what == 7 ? 1 : what <= 8 ? 0 : -1);
+        }
+        DUE.is("nothing was kept there", y.undo(), false);
+        y.bank(0, 1);
+        y.bank(1, 1);
+        DUE.is("no debt", y.owes(0, 1) + y.holds(0, 1), 0);
+        DUE.is("no law", y.months(2), 0);
+        DUE.is("nothing is read", Due.blinks(y, "-.-", 100), 0);
+        y.keep();
+        y.owe(0, 1, 9);
+        Due.law(y, "f1(b=b);w1(b=b)");
+        Due.code(y, 3, ".");
+        y.check(0);
+        int[] want = {1, 1, 7, 3, 8, 1, 20, x.count(7), 5, -1, -1, -1, -1, 3};
+        for (int what = 0; what < want.length; what++) {
+            DUE.is("the first one, count " + what, x.count(what), want[what]);
+        }
+        DUE.is("its cash", x.bankIs(0, 0) * 100 + x.bankIs(1, 0), 1020);
+        DUE.is("its debt and share", x.owes(0, 1) * 100 + x.holds(0, 1), 560);
+        DUE.is("undone", x.undo(), true);
+        DUE.is("as it was kept there", x.count(0) * 1000 + x.count(3) * 100 + x.count(7), 777);
     }
 }

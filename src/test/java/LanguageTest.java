@@ -36,6 +36,8 @@ final class LanguageTest {
         for (Method m : ToadBank.class.getDeclaredMethods()) {
             if (!Modifier.isPrivate(m.getModifiers())) {
                 DUE.is(m.getName() + " once", open.add(m.getName()), true);
+            } else {
+                DUE.is(m.getName() + " is no name of the face", Set.of(FACE).contains(m.getName()), false);
             }
         }
         DUE.is("the face " + open, open.equals(Set.of(FACE)), true);
@@ -70,6 +72,10 @@ final class LanguageTest {
                 DUE.is(f.getName() + " a number", f.getType() == int.class, true);
             } else {
                 own++;
+                Class<?> type = f.getType();
+                boolean isOwn = type.getEnclosingClass() == ToadBank.class;
+                boolean isNumber = type == int.class || type == boolean.class || type == int[].class;
+                DUE.is(f.getName() + " is of a type that is allowed", isOwn || isNumber, true);
             }
         }
         DUE.is(c + " twenty fields at most", own <= 20, true);

@@ -17,6 +17,7 @@ final class MonthsTest {
         oneByOne();
         months();
         tried();
+        fallenInAll();
         seed();
         DUE.end();
     }
@@ -414,6 +415,23 @@ final class MonthsTest {
         DUE.is("nothing is changed", x.bankIs(0, 0) + x.bankIs(0, 2), 11);
         DUE.is("then done", x.months(4), 1);
         DUE.is("as tried", x.bankIs(0, 0) + x.count(8), 7);
+    }
+
+    /** FALLEN are all that were SHUT in MONTHS; months and tried tell those of their own MONTHS alone. */
+    private static void fallenInAll() {
+        ToadBank x = new ToadBank();
+        Due.law(x, "w1(b<4);x(b>3)");
+        for (int times = 1; times <= 20; times++) {
+            for (int b = 0; b < 8; b++) {
+                x.bank(b, 0);
+            }
+            DUE.is("tried", x.tried(1, 0), 8);
+            DUE.is("fallen ahead", x.count(1), 8 * (times - 1));
+            DUE.is("shut", x.months(2), 8);
+            DUE.is("fallen", x.count(1), 8 * times);
+            DUE.is("no more", x.tried(1, 0), 0);
+            DUE.is("no more", x.months(1), 0);
+        }
     }
 
     /** Promise 34. */

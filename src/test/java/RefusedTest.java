@@ -16,6 +16,7 @@ final class RefusedTest {
         refusedWithTheTape();
         faultsEmptyTheTapeAlone();
         questionsChangeNothing();
+        changesLeaveTheTape();
         severalFit();
         emptyOnes();
         anyArguments();
@@ -350,6 +351,21 @@ final class RefusedTest {
                 x.count(i);
             }
             DUE.is("only asked, state " + which, Arrays.equals(look(x), look(state(which))), true);
+        }
+    }
+
+    /** Calls that change the town, but read no bytes, leave the tape, THE LAW and CODES. */
+    private static void changesLeaveTheTape() {
+        Call[] changes = {x -> bit(x.bank(1, 77)), x -> bit(x.bank(4, 5)), x -> bit(x.owe(0, 1, 3)),
+            x -> bit(x.hold(3, 0, 9)), x -> x.months(2) >= 0 ? 1 : 0, x -> bit(x.merge(0, 3)), x -> bit(x.seed(9)),
+            x -> x.keep() >= 0 ? 1 : 0, x -> bit(x.undo())};
+        for (int i = 0; i < changes.length; i++) {
+            ToadBank x = state(1);
+            DUE.is("change " + i, changes[i].on(x), 1);
+            DUE.is("bytes behind change " + i, x.count(6), 40);
+            DUE.is("rules behind change " + i, x.count(5), 4);
+            DUE.is("codes behind change " + i, x.count(4) * 100 + x.count(12) * 10 + x.count(15), 3621);
+            DUE.is("the text behind change " + i, x.law(22), 3);
         }
     }
 
